@@ -716,52 +716,46 @@ public final class SecondBest {
             Arrays.fill(ways, 0, everyone + 1, 0);
             ways[0] = 1;
             for (int set = 0; set < everyone; set++) {
-                if (ways[set] > 0) {
-                    for (int p = 0; p < players; p++) {
-                        if (canFollow(p, set)) {
-                            ways[set | 1 << p] += ways[set];
-                        }
+                int next = ways[set] > 0 ? followers(set) : 0;
+                for (int p = 0; p < players && next != 0; p++) {
+                    if ((next >> p & 1) == 1) {
+                        ways[set | 1 << p] += ways[set];
                     }
                 }
             }
         }
 
-        private boolean canFollow(int p, int set) {
-            return (set >> p & 1) == 0 && (above[p] & ~set) == 0;
+        /** Who can have the place behind a set, as bits. */
+        private int followers(int set) {
+            int who = 0;
+            for (int p = 0; p < players; p++) {
+                if ((set >> p & 1) == 0 && (above[p] & ~set) == 0) {
+                    who |= 1 << p;
+                }
+            }
+            return who;
         }
 
         int all() {
             return ways[everyone];
         }
 
-        /** Who of the least number can have the place behind a set, or -1. */
-        private int follower(int set) {
-            for (int p = 0; p < players; p++) {
-                if (canFollow(p, set)) {
-                    return p;
-                }
-            }
-            return -1;
-        }
-
         boolean isAny() {
             int set = 0;
             for (int place = 0; place < players; place++) {
-                int p = follower(set);
-                if (p < 0) {
-                    return false;
-                }
-                set |= 1 << p;
+                set |= followers(set);
             }
-            return true;
+            return set == everyone;
         }
 
         int firstAt(int place) {
             int set = 0;
-            for (int at = 0; at < place; at++) {
-                set |= 1 << follower(set);
+            int least = 0;
+            for (int at = 0; at <= place; at++) {
+                least = followers(set) & -followers(set);
+                set |= least;
             }
-            return follower(set);
+            return Integer.bitCount(least - 1);
         }
 
         boolean isBetter(int a, int b) {
@@ -776,19 +770,18 @@ public final class SecondBest {
         int placesOf(int p) {
             int places = 0;
             for (int set = 0; set < everyone; set++) {
-                if (ways[set] > 0 && canFollow(p, set)) {
+                if (ways[set] > 0 && (followers(set) >> p & 1) == 1) {
                     places |= 1 << Integer.bitCount(set);
                 }
             }
             return places;
         }
 
-        /** Who can have a place, as bits. */
         private int whoCanHave(int place) {
             int who = 0;
-            for (int p = 0; p < players; p++) {
-                if ((placesOf(p) >> place & 1) == 1) {
-                    who |= 1 << p;
+            for (int set = 0; set < everyone; set++) {
+                if (ways[set] > 0 && Integer.bitCount(set) == place) {
+                    who |= followers(set);
                 }
             }
             return who;
@@ -800,7 +793,7 @@ public final class SecondBest {
                 return 0;
             }
             switch (kind) {
-                case 0: return Integer.bitCount(whoCanHave(0));
+                case 0: return Integer.bitCount(followers(0));
                 case 1: return bestAndSecond();
                 case 2: return Integer.bitCount(whoCanHave(k));
                 case 3: return bestAndLast();
@@ -814,12 +807,11 @@ public final class SecondBest {
             if (players == 1) {
                 return 1;
             }
+            int best = followers(0);
             int pairs = 0;
             for (int p = 0; p < players; p++) {
-                for (int q = 0; q < players; q++) {
-                    if (canFollow(p, 0) && canFollow(q, 1 << p)) {
-                        pairs++;
-                    }
+                if ((best >> p & 1) == 1) {
+                    pairs += Integer.bitCount(followers(1 << p));
                 }
             }
             return pairs;
@@ -829,7 +821,7 @@ public final class SecondBest {
             if (players == 1) {
                 return 1;
             }
-            int best = whoCanHave(0);
+            int best = followers(0);
             int last = whoCanHave(players - 1);
             // Any two unlike ones of these can be so at once.
             return Integer.bitCount(best) * Integer.bitCount(last) - Integer.bitCount(best & last);
@@ -942,10 +934,13 @@ public final class SecondBest {
 
         /** The first match that keeps the worst, as 10 times the lesser and the other, or -1. */
         int firstKeeping() {
-            int worst = leastWorst();
+            if (!isOpen) {
+                return -1;
+            }
+            int worst = cost(start, false, 0);
             for (int a = 0; a < players; a++) {
                 for (int b = a + 1; b < players; b++) {
-                    if (isOpen && isUnknown(start, a, b) && 1 + restBy(start, a, b, false, 0) == worst) {
+                    if (isUnknown(start, a, b) && 1 + restBy(start, a, b, false, 0) == worst) {
                         return 10 * a + b;
                     }
                 }
@@ -1241,8 +1236,14 @@ public final class SecondBest {
                     return pop();
                 } else if (step == ASIDE) {
                     isAside = pop() == 0;
+                } else if (step == NUMBER) {
+                    push(steps[2 * at + 1]);
+                } else if (step == NAME) {
+                    push(named[steps[2 * at + 1]]);
                 } else {
-                    push(resultOf(step, steps[2 * at + 1]));
+                    int right = pop();
+                    int left = step == '!' || step == NEGATE ? 0 : pop();
+                    push(joined(step, left, right));
                 }
             }
             return 0;
@@ -1263,20 +1264,10 @@ public final class SecondBest {
             return stack[height];
         }
 
-        private int resultOf(int step, int number) {
-            switch (step) {
-                case NUMBER: return number;
-                case NAME: return named[number];
-                case NEGATE: return -pop();
-                case '!': return pop() == 0 ? 1 : 0;
-                default:
-                    int right = pop();
-                    return joined(step, pop(), right);
-            }
-        }
-
         private static int joined(int step, int left, int right) {
             switch (step) {
+                case '!': return right == 0 ? 1 : 0;
+                case NEGATE: return -right;
                 case '|': return left != 0 || right != 0 ? 1 : 0;
                 case '&': return left != 0 && right != 0 ? 1 : 0;
                 case '<': return left < right ? 1 : 0;
@@ -1761,8 +1752,8 @@ public final class SecondBest {
                 case BYTES: return (byte) v;
                 case SHORTS: return (short) v;
                 case INTS: return (int) v;
-                case BOOLEANS: return v != 0 ? 1 : 0;
-                default: return v;
+                case LONGS: return v;
+                default: return v != 0 ? 1 : 0;
             }
         }
 

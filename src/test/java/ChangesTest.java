@@ -6,6 +6,7 @@ public final class ChangesTest {
         backAndForth();
         othersAreNoChanges();
         fortyAreKept();
+        fortyOfAllSorts();
         CHECK.end();
     }
 
@@ -88,5 +89,27 @@ public final class ChangesTest {
         CHECK.due("forty still", x.count(4), 40);
         CHECK.due("undo()", x.undo(), 39);
         CHECK.due("its worth", x.of(1, 0), 99);
+    }
+
+    /** Worths of both players and the match in turn, so that each change undone must be of the right one. */
+    private static void fortyOfAllSorts() {
+        SecondBest x = two();
+        int[][] stood = new int[61][];
+        for (int n = 0; n <= 60; n++) {
+            stood[n] = new int[] {x.of(0, 0), x.of(1, 0), x.of(0, 12)};
+            if (n % 3 == 2) {
+                x.mend(0, 1, 1 - x.of(0, 12));
+            } else {
+                x.mend(n % 3, 0, 30 + n);
+            }
+        }
+        for (int left = 39; left >= 0; left--) {
+            CHECK.due("undo()", x.undo(), left);
+            int[] want = stood[21 + left];
+            CHECK.due("worth of 0, " + left + " left", x.of(0, 0), want[0]);
+            CHECK.due("worth of 1, " + left + " left", x.of(1, 0), want[1]);
+            CHECK.due("whether it counts, " + left + " left", x.of(0, 12), want[2]);
+        }
+        CHECK.due("no more", x.undo(), -5);
     }
 }

@@ -13,14 +13,6 @@ public final class CupsTest {
         CHECK.end();
     }
 
-    private static SecondBest with(int... worths) {
-        SecondBest x = new SecondBest();
-        for (int w : worths) {
-            x.player(w);
-        }
-        return x;
-    }
-
     private static SecondBest seated(SecondBest x, int... row) {
         x.cup(-1);
         for (int p : row) {
@@ -30,14 +22,11 @@ public final class CupsTest {
     }
 
     private static void adopt(SecondBest x, String text) {
-        for (int i = 0; i < text.length(); i++) {
-            x.feed(text.charAt(i));
-        }
-        CHECK.due("law of " + text, x.law(), 1);
+        CHECK.due("law of " + text, Made.adopt(x, text), 1);
     }
 
     private static void row() {
-        SecondBest x = with(1, 2, 3, 4, 5, 6, 7, 8);
+        SecondBest x = Made.ofWorths(1, 2, 3, 4, 5, 6, 7, 8);
         int[] bad = {-2, 8, 100, Integer.MIN_VALUE, Integer.MAX_VALUE};
         for (int p : bad) {
             CHECK.due("cup(" + p + ")", x.cup(p), -1);
@@ -59,14 +48,14 @@ public final class CupsTest {
     }
 
     private static void likelyOfFour() {
-        SecondBest x = seated(with(50, 50, 50, 50), 0, 1, 2, 3);
+        SecondBest x = seated(Made.ofWorths(50, 50, 50, 50), 0, 1, 2, 3);
         for (int p = 0; p < 4; p++) {
             likely(x, p, 0, 1, 4);
             likely(x, p, 1, 1, 2);
             likely(x, p, 2, 1, 2);
         }
         // 0 beats 1 by 60, 2 beats 3 by 30; then 0 beats 2 by 80, 3 by 90, and so on.
-        SecondBest y = seated(with(0, 0, 0, 0, 0), 0, 1, 2, 3);
+        SecondBest y = seated(Made.ofWorths(0, 0, 0, 0, 0), 0, 1, 2, 3);
         adopt(y, "r=0&b=1?60;r=0?30;a=0?b*10+60;50");
         likely(y, 0, 1, 3, 5);
         likely(y, 0, 2, 2, 5);
@@ -86,7 +75,7 @@ public final class CupsTest {
     }
 
     private static void likelyOfEight() {
-        SecondBest x = seated(with(50, 50, 50, 50, 50, 50, 50, 50), 0, 1, 2, 3, 4, 5, 6, 7);
+        SecondBest x = seated(Made.ofWorths(50, 50, 50, 50, 50, 50, 50, 50), 0, 1, 2, 3, 4, 5, 6, 7);
         for (int p = 0; p < 8; p++) {
             likely(x, p, 0, 1, 8);
             likely(x, p, 1, 1, 4);
@@ -105,7 +94,7 @@ public final class CupsTest {
     }
 
     private static void sureCups() {
-        SecondBest x = seated(with(1, 2, 3, 4, 5, 6, 7, 8), 3, 0, 5, 2, 7, 1, 4, 6);
+        SecondBest x = seated(Made.ofWorths(1, 2, 3, 4, 5, 6, 7, 8), 3, 0, 5, 2, 7, 1, 4, 6);
         adopt(x, "100");
         for (int p = 0; p < 8; p++) {
             likely(x, p, 0, p == 0 ? 1 : 0, 1);
@@ -121,7 +110,7 @@ public final class CupsTest {
     }
 
     private static void friends() {
-        SecondBest x = seated(with(0, 0, 0, 0, 0), 0, 1, 2, 3);
+        SecondBest x = seated(Made.ofWorths(0, 0, 0, 0, 0), 0, 1, 2, 3);
         CHECK.due("all alike: the first", x.friend(3), 0);
         // 0 beats 3 and 3 beats 1 and 2, who both beat 0: 0 is best off to meet 3 at last, and that can't be at first.
         adopt(x, "a=0?(b=3)*100;b=3?0;50");
@@ -152,7 +141,7 @@ public final class CupsTest {
     }
 
     private static void lots() {
-        SecondBest x = seated(with(50, 50, 50, 50, 50), 0, 1, 2, 3);
+        SecondBest x = seated(Made.ofWorths(50, 50, 50, 50, 50), 0, 1, 2, 3);
         int z = 0;
         int[] drawn = new int[3];
         for (int i = 0; i < 3; i++) {
@@ -181,7 +170,7 @@ public final class CupsTest {
     }
 
     private static void champions() {
-        SecondBest x = with(10, 90, 80, 70, 60, 50, 40, 30);
+        SecondBest x = Made.ofWorths(10, 90, 80, 70, 60, 50, 40, 30);
         CHECK.due("no row", x.champion(0), -5);
         CHECK.due("champion(2)", x.champion(2), -1);
         CHECK.due("champion(-1)", x.champion(-1), -1);
@@ -203,7 +192,7 @@ public final class CupsTest {
         CHECK.due("2 and 0 lost to 1, not 3", x.champion(1), 2);
         seated(x, 1, 0, 7, 6, 5);
         CHECK.due("a row of five", x.champion(0), -5);
-        SecondBest like = seated(with(50, 50, 50, 50), 3, 2, 1, 0);
+        SecondBest like = seated(Made.ofWorths(50, 50, 50, 50), 3, 2, 1, 0);
         CHECK.due("like worths: the least", like.champion(0), 0);
         CHECK.due("like worths: 1 and 2 lost to 0", like.champion(1), 1);
         like.mend(2, 0, 51);

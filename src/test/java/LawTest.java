@@ -15,13 +15,6 @@ public final class LawTest {
         CHECK.end();
     }
 
-    private static int adopt(SecondBest x, String text) {
-        for (int i = 0; i < text.length(); i++) {
-            x.feed(text.charAt(i));
-        }
-        return x.law();
-    }
-
     private static void tape() {
         SecondBest x = new SecondBest();
         int[] bad = {-1, 256, 1000, Integer.MIN_VALUE, Integer.MAX_VALUE};
@@ -69,7 +62,7 @@ public final class LawTest {
         for (Object[] t : texts) {
             SecondBest x = new SecondBest();
             int fault = (Integer) t[1];
-            CHECK.due("law of " + t[0], adopt(x, (String) t[0]), fault < 0 ? 1 : -100 - fault);
+            CHECK.due("law of " + t[0], Made.adopt(x, (String) t[0]), fault < 0 ? 1 : -100 - fault);
             CHECK.due("the tape behind " + t[0], x.count(3), 0);
         }
     }
@@ -92,13 +85,9 @@ public final class LawTest {
             {"1024*1024*1024*2/-1<0", 1}, {"1024*1024*1024*2%-1+5", 5}, {"1024*1024*1024*2-1>0", 1},
         };
         for (Object[] t : texts) {
-            SecondBest x = new SecondBest();
-            int[] worths = {0, 0, 0, 20, 0, 70};
-            for (int w : worths) {
-                x.player(w);
-            }
+            SecondBest x = Made.ofWorths(0, 0, 0, 20, 0, 70);
             int want = (Integer) t[1];
-            boolean isText = adopt(x, (String) t[0]) == 1;
+            boolean isText = Made.adopt(x, (String) t[0]) == 1;
             CHECK.due(t[0] + " is a text", isText ? 1 : 0, want < 0 ? 0 : 1);
             if (isText) {
                 CHECK.due("chance(35, 2) by " + t[0], x.chance(35, 2), want);
@@ -111,9 +100,7 @@ public final class LawTest {
         int[][] cases = {{0, 99, 1}, {99, 0, 99}, {50, 50, 50}, {51, 50, 50}, {50, 51, 50}, {53, 50, 51}, {50, 53, 49},
             {0, 1, 50}, {2, 0, 51}};
         for (int[] c : cases) {
-            SecondBest x = new SecondBest();
-            x.player(c[0]);
-            x.player(c[1]);
+            SecondBest x = Made.ofWorths(c[0], c[1]);
             for (int r = 0; r < 3; r++) {
                 CHECK.due("chance(1, " + r + ") of " + c[0] + ", " + c[1], x.chance(1, r), c[2]);
                 CHECK.due("chance(10, " + r + ") of " + c[0] + ", " + c[1], x.chance(10, r), 100 - c[2]);
@@ -122,12 +109,10 @@ public final class LawTest {
     }
 
     private static void faultyTextLeavesTheLaw() {
-        SecondBest x = new SecondBest();
-        x.player(10);
-        x.player(20);
-        CHECK.due("law()", adopt(x, "r*10+b"), 1);
+        SecondBest x = Made.ofWorths(10, 20);
+        CHECK.due("law()", Made.adopt(x, "r*10+b"), 1);
         CHECK.due("chance(1, 2)", x.chance(1, 2), 21);
-        CHECK.due("a faulty text", adopt(x, "99+"), -103);
+        CHECK.due("a faulty text", Made.adopt(x, "99+"), -103);
         CHECK.due("no text", x.law(), -100);
         CHECK.due("the law stands", x.chance(1, 2), 21);
         x.feed('7');
@@ -135,14 +120,12 @@ public final class LawTest {
         CHECK.due("law()", x.law(), 1);
         CHECK.due("another law", x.chance(1, 2), 7);
         CHECK.due("a worth", x.mend(0, 0, 90), 10);
-        CHECK.due("law()", adopt(x, "x"), 1);
+        CHECK.due("law()", Made.adopt(x, "x"), 1);
         CHECK.due("worths are as they are now", x.chance(1, 0), 90);
     }
 
     private static void wrongChances() {
-        SecondBest x = new SecondBest();
-        x.player(10);
-        x.player(20);
+        SecondBest x = Made.ofWorths(10, 20);
         int[][] bad = {{0, 0}, {11, 0}, {2, 0}, {20, 0}, {-1, 0}, {1, -1}, {1, 3}, {100, 0}, {Integer.MIN_VALUE, 0},
             {1, Integer.MAX_VALUE}};
         for (int[] b : bad) {
@@ -161,7 +144,7 @@ public final class LawTest {
             x.player(v);
             String cut = t.length() > 120 ? t.substring(0, 120) : t;
             int fault = ModelLaw.fault(cut);
-            CHECK.due("law of " + cut, adopt(x, t), fault < 0 ? 1 : -100 - fault);
+            CHECK.due("law of " + cut, Made.adopt(x, t), fault < 0 ? 1 : -100 - fault);
             for (int r = 0; r < 3 && fault < 0; r++) {
                 int told = ModelLaw.value(cut, 0, 1, w, v, r);
                 CHECK.due("chance(1, " + r + ") by " + cut, x.chance(1, r), Math.max(0, Math.min(100, told)));

@@ -9,19 +9,8 @@ public final class LeagueTest {
         CHECK.end();
     }
 
-    private static SecondBest with(int players, int... matches) {
-        SecondBest x = new SecondBest();
-        for (int p = 0; p < players; p++) {
-            x.player(p);
-        }
-        for (int wl : matches) {
-            x.match(wl);
-        }
-        return x;
-    }
-
     private static void nobody() {
-        SecondBest x = with(0);
+        SecondBest x = Made.with(0);
         CHECK.due("no such place", x.table(0, 0), -1);
         CHECK.due("no such place", x.table(0, 1), -1);
         CHECK.due("place 0 as told, but no players", x.table(0, 2), -5);
@@ -33,7 +22,7 @@ public final class LeagueTest {
 
     private static void tables() {
         // Won and lost: 0: 1, 2; 1: 2, 1; 2: 2, 0; 3: 1, 2; 4: 0, 1; 5: 0, 0.
-        SecondBest x = with(6, 10, 13, 20, 23, 1, 34);
+        SecondBest x = Made.with(6, 10, 13, 20, 23, 1, 34);
         int[] who = {2, 1, 0, 3, 5, 4};
         int[] points = {2, 2, 1, 1, 0, 0};
         for (int place = 0; place < 6; place++) {
@@ -49,14 +38,14 @@ public final class LeagueTest {
         for (int[] b : bad) {
             CHECK.due("table(" + b[0] + ", " + b[1] + ")", x.table(b[0], b[1]), -1);
         }
-        SecondBest like = with(3, 10, 1, 20, 2);
+        SecondBest like = Made.with(3, 10, 1, 20, 2);
         CHECK.due("0 won twice and lost twice", like.table(0, 0), 0);
         CHECK.due("then by number", like.table(1, 0), 1);
         CHECK.due("lost by who stands higher", like.table(0, 2), 2);
     }
 
     private static void days() {
-        SecondBest x = with(8, 1, 23, 45, 67, 2, 13, 10, 54);
+        SecondBest x = Made.with(8, 1, 23, 45, 67, 2, 13, 10, 54);
         int[][] plans = {{0, 1, 2, 3, 4, 5, 6, 7}, {0, 0, 1, 1, 2, 2, 3, 3}, {0, 0, 0, 1, 1, 1, 2, 2}, {0, 0, 0, 0, 1, 1, 2, 1}};
         int[] all = {8, 4, 3, 3};
         for (int t = 1; t <= 4; t++) {
@@ -78,7 +67,7 @@ public final class LeagueTest {
         for (int[] b : bad) {
             CHECK.due("days(" + b[0] + ", " + b[1] + ")", x.days(b[0], b[1]), -1);
         }
-        SecondBest twelve = with(2, 1, 1, 1, 1, 1, 1, 1, 1, 1, 1, 1, 10);
+        SecondBest twelve = Made.with(2, 1, 1, 1, 1, 1, 1, 1, 1, 1, 1, 1, 10);
         CHECK.due("the same two twelve times", twelve.days(4, -1), 12);
         CHECK.due("the last day", twelve.days(4, 11), 11);
     }

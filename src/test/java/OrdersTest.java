@@ -12,19 +12,8 @@ public final class OrdersTest {
         CHECK.end();
     }
 
-    private static SecondBest with(int players, int... matches) {
-        SecondBest x = new SecondBest();
-        for (int p = 0; p < players; p++) {
-            x.player(p);
-        }
-        for (int wl : matches) {
-            x.match(wl);
-        }
-        return x;
-    }
-
     private static void nobody() {
-        SecondBest x = with(0);
+        SecondBest x = Made.with(0);
         CHECK.due("one order of nobody", x.orders(-1), 1);
         CHECK.due("orders(0)", x.orders(0), -1);
         CHECK.due("orders(-2)", x.orders(-2), -1);
@@ -38,7 +27,7 @@ public final class OrdersTest {
         int all = 1;
         for (int n = 1; n <= 8; n++) {
             all *= n;
-            SecondBest x = with(n);
+            SecondBest x = Made.with(n);
             CHECK.due("orders of " + n, x.orders(-1), all);
             for (int p = 0; p < n; p++) {
                 CHECK.due("the first order at " + p, x.orders(p), p);
@@ -49,7 +38,7 @@ public final class OrdersTest {
             CHECK.due("no such player", x.places(n), -1);
             CHECK.due("no such player", x.places(-1), -1);
         }
-        SecondBest x = with(3);
+        SecondBest x = Made.with(3);
         int[] bad = {0, 11, 22, 3, 13, 30, 31, -1, -12, 100, 102, Integer.MIN_VALUE, Integer.MAX_VALUE};
         for (int ab : bad) {
             CHECK.due("sure(" + ab + ")", x.sure(ab), -1);
@@ -57,7 +46,7 @@ public final class OrdersTest {
     }
 
     private static void chain() {
-        SecondBest x = with(8, 76, 65, 54, 43, 32, 21, 10);
+        SecondBest x = Made.with(8, 76, 65, 54, 43, 32, 21, 10);
         CHECK.due("one order", x.orders(-1), 1);
         for (int p = 0; p < 8; p++) {
             CHECK.due("at place " + p, x.orders(p), 7 - p);
@@ -76,7 +65,7 @@ public final class OrdersTest {
     }
 
     private static void tree() {
-        SecondBest x = with(5, 20, 21, 43);
+        SecondBest x = Made.with(5, 20, 21, 43);
         CHECK.due("orders", x.orders(-1), 20);
         int[] first = {2, 0, 1, 4, 3};
         for (int p = 0; p < 5; p++) {
@@ -90,7 +79,7 @@ public final class OrdersTest {
     }
 
     private static void clashes() {
-        SecondBest x = with(4, 1, 12, 30, 20, 31, 13);
+        SecondBest x = Made.with(4, 1, 12, 30, 20, 31, 13);
         CHECK.due("clash()", x.clash(), 3);
         CHECK.due("no orders", x.orders(-1), 0);
         CHECK.due("no first order", x.orders(0), -2);
@@ -109,23 +98,23 @@ public final class OrdersTest {
     }
 
     private static void fewestFalse() {
-        CHECK.due("of two the least", with(2, 1, 10).wrong(), 1);
-        CHECK.due("of three the one", with(2, 1, 1, 10).wrong(), 4);
-        CHECK.due("of three the one", with(2, 10, 1, 1).wrong(), 1);
-        CHECK.due("a ring: the least", with(3, 1, 12, 20).wrong(), 1);
-        CHECK.due("two rings through match 2", with(4, 12, 30, 1, 20, 13).wrong(), 4);
-        CHECK.due("two rings apart", with(6, 1, 12, 20, 34, 45, 53).wrong(), 9);
-        CHECK.due("fewest ahead of least", with(2, 1, 1, 1, 10).wrong(), 8);
-        CHECK.due("of like many the least", with(4, 1, 1, 10, 12, 20).wrong(), 1 + 2);
-        CHECK.due("six pairs both ways", with(4, 1, 10, 2, 20, 3, 30, 12, 21, 13, 31, 23, 32).wrong(), 0x555);
+        CHECK.due("of two the least", Made.with(2, 1, 10).wrong(), 1);
+        CHECK.due("of three the one", Made.with(2, 1, 1, 10).wrong(), 4);
+        CHECK.due("of three the one", Made.with(2, 10, 1, 1).wrong(), 1);
+        CHECK.due("a ring: the least", Made.with(3, 1, 12, 20).wrong(), 1);
+        CHECK.due("two rings through match 2", Made.with(4, 12, 30, 1, 20, 13).wrong(), 4);
+        CHECK.due("two rings apart", Made.with(6, 1, 12, 20, 34, 45, 53).wrong(), 9);
+        CHECK.due("fewest ahead of least", Made.with(2, 1, 1, 1, 10).wrong(), 8);
+        CHECK.due("of like many the least", Made.with(4, 1, 1, 10, 12, 20).wrong(), 1 + 2);
+        CHECK.due("six pairs both ways", Made.with(4, 1, 10, 2, 20, 3, 30, 12, 21, 13, 31, 23, 32).wrong(), 0x555);
         CHECK.due("six pairs both ways, the other way about",
-            with(4, 10, 1, 20, 2, 30, 3, 21, 12, 31, 13, 32, 23).wrong(), 0x555);
-        SecondBest x = with(2, 1, 10);
+            Made.with(4, 10, 1, 20, 2, 30, 3, 21, 12, 31, 13, 32, 23).wrong(), 0x555);
+        SecondBest x = Made.with(2, 1, 10);
         x.mend(0, 1, 0);
         CHECK.due("what does not count is not false", x.wrong(), 0);
         // 0 to 7 in a ring (0 .. 7), 4 and 6 both ways (8, 9), 0 and 3 both ways (10, 11): three must go. 4>5>6
         // speaks against 9; match 0 is the least of the ring, and without it 10 is less than 11.
-        SecondBest all = with(8, 1, 12, 23, 34, 45, 56, 67, 70, 46, 64, 3, 30);
+        SecondBest all = Made.with(8, 1, 12, 23, 34, 45, 56, 67, 70, 46, 64, 3, 30);
         CHECK.due("twelve matches of eight", all.wrong(), 1 + 0x200 + 0x400);
     }
 }

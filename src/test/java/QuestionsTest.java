@@ -18,17 +18,6 @@ public final class QuestionsTest {
         CHECK.end();
     }
 
-    private static SecondBest with(int players, int... matches) {
-        SecondBest x = new SecondBest();
-        for (int p = 0; p < players; p++) {
-            x.player(p);
-        }
-        for (int wl : matches) {
-            x.match(wl);
-        }
-        return x;
-    }
-
     private static boolean isQuestion(int players, int qk) {
         int k = qk % 10;
         switch (Math.floorDiv(qk, 10)) {
@@ -41,7 +30,7 @@ public final class QuestionsTest {
 
     private static void whatIsAQuestion() {
         for (int players = 1; players <= 8; players++) {
-            SecondBest x = with(players);
+            SecondBest x = Made.with(players);
             for (int qk = -30; qk <= 130; qk++) {
                 boolean is = isQuestion(players, qk);
                 CHECK.due("ask(" + qk + ", 0) of " + players + " is BAD", x.ask(qk, 0) == -1 ? 1 : 0, is ? 0 : 1);
@@ -62,7 +51,7 @@ public final class QuestionsTest {
     }
 
     private static void nobody() {
-        SecondBest x = with(0);
+        SecondBest x = Made.with(0);
         for (int qk = 0; qk < 70; qk++) {
             int want = qk == 0 || qk == 10 || qk == 30 || qk == 40 ? -5 : -1;
             CHECK.due("ask(" + qk + ", 2), nobody", x.ask(qk, 2), want);
@@ -76,14 +65,14 @@ public final class QuestionsTest {
 
     private static void asked() {
         // 3 beat 1 beat 0 and 2; 4 has not played.
-        SecondBest x = with(5, 31, 10, 12);
+        SecondBest x = Made.with(5, 31, 10, 12);
         int[][] want = {{0, 2}, {10, 3}, {20, 2}, {21, 3}, {22, 4}, {23, 3}, {24, 3}, {30, 5}, {40, 10}, {51, 2}, {52, 2},
             {53, 3}, {54, 3}, {55, 1}, {60, 2}, {61, 1}, {62, 2}, {63, 1}, {64, 2}};
         for (int[] w : want) {
             CHECK.due("ask(" + w[0] + ", 1)", x.ask(w[0], 1), w[1]);
             CHECK.due("ask(" + w[0] + ", 0)", x.ask(w[0], 0), w[1] == 1 ? 1 : 0);
         }
-        SecondBest none = with(2, 1, 10);
+        SecondBest none = Made.with(2, 1, 10);
         int[] questions = {0, 10, 20, 21, 30, 40, 51, 52, 60, 61};
         for (int qk : questions) {
             CHECK.due("no orders: ask(" + qk + ", 0)", none.ask(qk, 0), 1);
@@ -101,14 +90,14 @@ public final class QuestionsTest {
         int[] all = {0, 0, 1, 3, 5, 7, 10, 13, 16};
         int[] best = {0, 0, 1, 2, 2, 3, 3, 3, 3};
         for (int n = 1; n <= 8; n++) {
-            CHECK.due("bound of all of " + n, with(n).ask(40, 2), all[n]);
-            CHECK.due("bound of best of " + n, with(n).ask(0, 2), best[n]);
+            CHECK.due("bound of all of " + n, Made.with(n).ask(40, 2), all[n]);
+            CHECK.due("bound of best of " + n, Made.with(n).ask(0, 2), best[n]);
         }
     }
 
     private static void proofs() {
         // Matches 1 and 3 tell again what 0 and 2 told; 4 follows from 0 and 2.
-        SecondBest x = with(3, 1, 1, 12, 12, 2);
+        SecondBest x = Made.with(3, 1, 1, 12, 12, 2);
         int[] questions = {0, 10, 20, 21, 22, 30, 40, 51, 52, 53, 60, 61, 62};
         int[] want = {5, 5, 5, 5, 5, 5, 5, 5, 5, 0, 1, 4, 5};
         for (int i = 0; i < want.length; i++) {
@@ -120,13 +109,13 @@ public final class QuestionsTest {
         x.mend(1, 1, 0);
         CHECK.due("not answered", x.proof(0), -2);
         CHECK.due("last is known by 3 and 4", x.proof(22), 8 + 16);
-        CHECK.due("one only", with(1).proof(40), 0);
-        CHECK.due("six players", with(6).proof(0), -5);
-        CHECK.due("six players, BAD", with(6).proof(1), -1);
-        CHECK.due("five in order", with(5, 1, 2, 3, 4, 12, 13, 14, 23, 24, 34).proof(40), 1 + 16 + 128 + 512);
-        CHECK.due("five, the best", with(5, 1, 2, 3, 4, 12, 13, 14, 23, 24, 34).proof(0), 15);
+        CHECK.due("one only", Made.with(1).proof(40), 0);
+        CHECK.due("six players", Made.with(6).proof(0), -5);
+        CHECK.due("six players, BAD", Made.with(6).proof(1), -1);
+        CHECK.due("five in order", Made.with(5, 1, 2, 3, 4, 12, 13, 14, 23, 24, 34).proof(40), 1 + 16 + 128 + 512);
+        CHECK.due("five, the best", Made.with(5, 1, 2, 3, 4, 12, 13, 14, 23, 24, 34).proof(0), 15);
         // 4 is last, if each of the others beat somebody: 0, 1 and 2 by their first matches.
-        CHECK.due("five, the last", with(5, 1, 2, 3, 4, 12, 13, 14, 23, 24, 34).proof(24), 1 + 16 + 128 + 512);
+        CHECK.due("five, the last", Made.with(5, 1, 2, 3, 4, 12, 13, 14, 23, 24, 34).proof(24), 1 + 16 + 128 + 512);
     }
 
     private static void searchedByHand() {
@@ -135,12 +124,12 @@ public final class QuestionsTest {
         int[] second = {0, 0, 1, 3, 4};
         int[] ends = {0, 0, 1, 3, 4};
         for (int n = 1; n <= 4; n++) {
-            CHECK.due("best of " + n, with(n).worst(0), n - 1);
-            CHECK.due("best and second of " + n, with(n).worst(10), second[n]);
-            CHECK.due("best and last of " + n, with(n).worst(30), ends[n]);
-            CHECK.due("all of " + n, with(n).worst(40), order[n]);
+            CHECK.due("best of " + n, Made.with(n).worst(0), n - 1);
+            CHECK.due("best and second of " + n, Made.with(n).worst(10), second[n]);
+            CHECK.due("best and last of " + n, Made.with(n).worst(30), ends[n]);
+            CHECK.due("all of " + n, Made.with(n).worst(40), order[n]);
         }
-        SecondBest x = with(3);
+        SecondBest x = Made.with(3);
         CHECK.due("three in order: 8 by 3", x.mean(40, 0), 8);
         CHECK.due("three in order: 8 by 3", x.mean(40, 1), 3);
         x.match(12);
@@ -168,33 +157,33 @@ public final class QuestionsTest {
     }
 
     private static void tooMany() {
-        SecondBest five = with(5);
+        SecondBest five = Made.with(5);
         CHECK.due("worst of five", five.worst(0), -5);
         CHECK.due("mean of five", five.mean(0, 0), -5);
         CHECK.due("next of five", five.next(0, 0), -5);
         CHECK.due("BAD stands ahead of STATE", five.worst(1), -1);
         CHECK.due("BAD stands ahead of STATE", five.mean(0, 2), -1);
         CHECK.due("BAD stands ahead of STATE", five.next(0, 2), -1);
-        SecondBest answered = with(5, 1, 12, 23, 34);
+        SecondBest answered = Made.with(5, 1, 12, 23, 34);
         CHECK.due("STATE stands ahead of NOT", answered.next(0, 0), -5);
-        CHECK.due("six, not answered: STATE stands ahead of NOT", with(6).proof(40), -5);
+        CHECK.due("six, not answered: STATE stands ahead of NOT", Made.with(6).proof(40), -5);
     }
 
     private static void longest() {
-        SecondBest x = with(3, 12);
+        SecondBest x = Made.with(3, 12);
         CHECK.due("1 beat 2: 0 and 1", x.longest(1), 1);
         CHECK.due("1 beat 2: 1 and 0", x.longest(10), 1);
         CHECK.due("1 beat 2: 0 and 2", x.longest(2), 0);
         CHECK.due("1 beat 2: 1 and 2", x.longest(21), 1);
         CHECK.due("it changes nothing", x.orders(-1), 3);
-        SecondBest free = with(8);
+        SecondBest free = Made.with(8);
         CHECK.due("like many: the lesser", free.longest(75), 5);
         CHECK.due("like many: the lesser", free.longest(57), 5);
         int[] bad = {0, 77, 8, 80, 18, -1, 108, Integer.MIN_VALUE};
         for (int ab : bad) {
             CHECK.due("longest(" + ab + ")", free.longest(ab), -1);
         }
-        SecondBest none = with(3, 1, 10);
+        SecondBest none = Made.with(3, 1, 10);
         CHECK.due("no orders", none.longest(2), -2);
         CHECK.due("BAD stands ahead of NOT", none.longest(22), -1);
     }
