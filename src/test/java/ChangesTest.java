@@ -94,8 +94,9 @@ public final class ChangesTest {
     /** Worths of both players and the match in turn, so that each change undone must be of the right one. */
     private static void fortyOfAllSorts() {
         SecondBest x = two();
-        int[][] stood = new int[61][];
-        for (int n = 0; n <= 60; n++) {
+        int[][] stood = new int[60][];
+        // Twenty are pushed out, no multiple of three: one that did not move would be of another sort.
+        for (int n = 0; n < 60; n++) {
             stood[n] = new int[] {x.of(0, 0), x.of(1, 0), x.of(0, 12)};
             if (n % 3 == 2) {
                 x.mend(0, 1, 1 - x.of(0, 12));
@@ -105,7 +106,7 @@ public final class ChangesTest {
         }
         for (int left = 39; left >= 0; left--) {
             CHECK.due("undo()", x.undo(), left);
-            int[] want = stood[21 + left];
+            int[] want = stood[20 + left];
             CHECK.due("worth of 0, " + left + " left", x.of(0, 0), want[0]);
             CHECK.due("worth of 1, " + left + " left", x.of(1, 0), want[1]);
             CHECK.due("whether it counts, " + left + " left", x.of(0, 12), want[2]);

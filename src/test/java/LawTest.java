@@ -39,6 +39,12 @@ public final class LawTest {
         x.player(1);
         x.player(2);
         CHECK.due("chance(1, 0)", x.chance(1, 0), 60);
+        x.feed('-');
+        for (int n = 1; n <= 119; n++) {
+            x.feed(n % 2 == 1 ? '1' : '+');
+        }
+        CHECK.due("all 120 bytes", x.law(), 1);
+        CHECK.due("-1 and 59 ones", x.chance(1, 0), 58);
         for (int n = 1; n <= 120; n++) {
             x.feed(n % 2 == 1 ? 'a' : ';');
         }
