@@ -16,7 +16,7 @@ public final class BoundsCountTest {
         CHECK.end();
     }
 
-    /** "How many: 0 .. 6 .. BAD." */
+    /** count: "0 PLAYERS" to "6 bodies that ran in the latest act(). BAD." */
     private static void whatIs0To6() {
         for (int what : new int[] {-1, 7, 8, MIN, MAX}) {
             UNCHANGED.due(World.values(), "count(" + what + ")", y -> y.count(what), -1);

@@ -19,6 +19,7 @@ public final class BoundsLawTest {
         oneOrMoreLines();
         oneQuestionMarkInALine();
         oneComparisonInB();
+        signsNoneOnceAndOften();
         numbersOf1To4Digits();
         noBlanks();
         fiveNames();
@@ -179,6 +180,35 @@ public final class BoundsLawTest {
         }
     }
 
+    /** "E = A { | A }. A = B { & B }.", "S = P { + P, - P }. P = O { * O, / O, % O }.": none, one, as many as fit. */
+    private static void signsNoneOnceAndOften() {
+        for (char sign : "|&+-*/%".toCharArray()) {
+            text("a", RIGHT);
+            text("a" + sign + "b", RIGHT);
+            text("a" + (sign + "b").repeat(59), RIGHT);
+            text("a" + (sign + "b").repeat(59) + sign, 120);
+            text("a" + (sign + "b").repeat(58) + "b", 117);
+            text("" + sign + "b", sign == '-' ? RIGHT : 0);
+        }
+        value("9" + "-1".repeat(7), 2);
+        value("1" + "*2".repeat(6), 64);
+        value("64" + "/2".repeat(6), 1);
+        value("99%50%20%6", 3);
+        value("0" + "|0".repeat(58) + "|5", 1);
+        value("1" + "&7".repeat(58) + "&0", 0);
+        // From the loosest to the closest: | & < + *.
+        value("1|1&0", 1);
+        value("1&0<0", 0);
+        value("1+1<1+2", 1);
+        value("1<2+3*4", 1);
+        value("2+3*4-5%3", 12);
+        value("0&0|1", 1);
+        value("2*3+4<10", 0);
+        value("2*3+4<11", 1);
+        value("-2*3+10", 4);
+        value("!0*5+!5*7", 5);
+    }
+
     /** "a number (1 to 4 digits)". */
     private static void numbersOf1To4Digits() {
         text("0", RIGHT);
@@ -274,20 +304,17 @@ public final class BoundsLawTest {
 
     /** "a TEXT by THE TAPE (at most 120 bytes)". */
     private static void textOf120Bytes() {
-        SecondBest x = Made.with(2);
-        CHECK.due("119 bytes", Made.adopt(x, ones(60)), 1);
-        CHECK.due("sixty", x.chance(1, 0), 60);
-        CHECK.due("120 bytes", Made.adopt(x, ones(59) + "+10"), 1);
-        CHECK.due("69", x.chance(1, 0), 69);
-        CHECK.due("121 bytes, the last of which does not come", Made.adopt(x, ones(59) + "+100"), 1);
-        CHECK.due("69", x.chance(1, 0), 69);
-        CHECK.due("120 bytes, one wanting", Made.adopt(x, ones(60) + "+"), -220);
-        CHECK.due("120 bytes, the last of which is faulty", Made.adopt(x, ones(60) + "a"), -219);
-        CHECK.due("59 lines that do not count, and one", Made.adopt(x, "0?1;".repeat(29) + "77"), 1);
-        CHECK.due("the last line", x.chance(1, 0), 77);
-        CHECK.due("sixty lines", Made.adopt(x, "5;".repeat(59) + "9?"), -220);
-        CHECK.due("sixty lines", Made.adopt(x, "5;".repeat(59) + "99"), 1);
-        CHECK.due("the first line", x.chance(1, 0), 5);
+        // 119 bytes, 120, and 121, the last of which does not come.
+        value(ones(60), 60);
+        value(ones(59) + "+10", 69);
+        value(ones(59) + "+100", 69);
+        text(ones(60) + "+", 120);
+        text(ones(60) + "a", 119);
+        // 29 lines that do not count, and one; sixty lines, of which the first counts.
+        value("0?1;".repeat(29) + "77", 77);
+        value("5;".repeat(59) + "99", 5);
+        text("5;".repeat(59) + "9?", 120);
+        text("5;".repeat(60), 120);
     }
 
     /** What chance() answers by a text: players 2 (worth 30) and 4 (worth 60) in round 1. */

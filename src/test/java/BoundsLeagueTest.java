@@ -196,7 +196,7 @@ public final class BoundsLeagueTest {
         CHECK.due("twelve by three", all.days(3, -1), 4);
     }
 
-    /** "t on a DAY": the one that fills it, and the one after that. */
+    /** "t (1 .. 4) on a DAY": the one that fills it, and the one after that. */
     private static void tablesFill() {
         int[][] day = {{0, 1, 2, 3}, {0, 0, 1, 1}, {0, 0, 0, 1}, {0, 0, 0, 0}};
         SecondBest x = Made.with(8, 1, 23, 45, 67);
