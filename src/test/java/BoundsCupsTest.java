@@ -34,14 +34,6 @@ public final class BoundsCupsTest {
         CHECK.end();
     }
 
-    private static SecondBest seated(SecondBest x, int... row) {
-        x.cup(-1);
-        for (int p : row) {
-            x.cup(p);
-        }
-        return x;
-    }
-
     /** The first so many of eight in the row. */
     private static SecondBest rowOf(int many) {
         SecondBest x = Made.ofWorths(50, 50, 50, 50, 50, 50, 50, 50);
@@ -114,7 +106,7 @@ public final class BoundsCupsTest {
 
     /** "BAD (not in the row, too)". */
     private static void likelyOfWhoIsInTheRow() {
-        SecondBest x = seated(Made.with(8), 7, 2, 5, 3);
+        SecondBest x = Made.seated(Made.with(8), 7, 2, 5, 3);
         for (int p = -1; p <= 8; p++) {
             boolean is = p == 7 || p == 2 || p == 5 || p == 3;
             CHECK.due("likely(" + p + ", 2, 1) is BAD", x.likely(p, 2, 1) == NONE ? 1 : 0, is ? 0 : 1);
@@ -123,9 +115,9 @@ public final class BoundsCupsTest {
             UNCHANGED.due(World.values(), "likely(" + p + ", 0, 0)", y -> y.likely(p, 0, 0), NONE);
         }
         UNCHANGED.due(World.FOUR, "likely(4, 0, 0) of four", y -> y.likely(4, 0, 0), NONE);
-        SecondBest gone = seated(Made.with(8), 0, 1, 2, 3);
+        SecondBest gone = Made.seated(Made.with(8), 0, 1, 2, 3);
         CHECK.due("in the row", gone.likely(3, 0, 1) == NONE ? 1 : 0, 0);
-        seated(gone, 4, 5, 6, 7);
+        Made.seated(gone, 4, 5, 6, 7);
         CHECK.due("no more in the row", gone.likely(3, 0, 1), NONE);
     }
 
@@ -221,19 +213,19 @@ public final class BoundsCupsTest {
         SecondBest x = rowOf(5);
         // 0 beats all but 1; 1 is beaten by 2 alone, by 3 alone: then 0 is best off if 1 meets that one first.
         CHECK.due("law()", Made.adopt(x, "a=0?(b>1)*100;a=1?(b=3)*100;100"), 1);
-        CHECK.due("1 with 2: the first with the fourth", seated(x, 0, 1, 2, 3).friend(0), 2);
+        CHECK.due("1 with 2: the first with the fourth", Made.seated(x, 0, 1, 2, 3).friend(0), 2);
         CHECK.due("law()", Made.adopt(x, "a=0?(b>1)*100;a=1?(b=2)*100;100"), 1);
-        CHECK.due("1 with 3: the first with the third", seated(x, 0, 1, 2, 3).friend(0), 1);
-        CHECK.due("1 with 3: the first with the second", seated(x, 0, 2, 1, 3).friend(0), 0);
+        CHECK.due("1 with 3: the first with the third", Made.seated(x, 0, 1, 2, 3).friend(0), 1);
+        CHECK.due("1 with 3: the first with the second", Made.seated(x, 0, 2, 1, 3).friend(0), 0);
         // Who was fifth in an earlier row makes no fourth way.
         SecondBest stale = rowOf(5);
         CHECK.due("law()", Made.adopt(stale, "a=0&b=4?100;50"), 1);
-        CHECK.due("three ways", seated(stale, 0, 1, 2, 3).friend(0), 0);
-        CHECK.due("three ways", seated(stale, 4, 1, 2, 3).friend(4), 0);
+        CHECK.due("three ways", Made.seated(stale, 0, 1, 2, 3).friend(0), 0);
+        CHECK.due("three ways", Made.seated(stale, 4, 1, 2, 3).friend(4), 0);
         // By one hundredth more.
         CHECK.due("law()", Made.adopt(x, "r=0&a=0&b=3?51;50"), 1);
-        CHECK.due("0 with 3 first", seated(x, 0, 1, 2, 3).friend(0), 2);
-        CHECK.due("3 with 1: like many as with 2", seated(x, 0, 1, 2, 3).friend(3), 0);
+        CHECK.due("0 with 3 first", Made.seated(x, 0, 1, 2, 3).friend(0), 2);
+        CHECK.due("3 with 1: like many as with 2", Made.seated(x, 0, 1, 2, 3).friend(3), 0);
     }
 
     /** "n cups (1 .. 50)". */
@@ -341,7 +333,7 @@ public final class BoundsCupsTest {
             }
             won[in[0]]++;
         }
-        SecondBest x = seated(rowOf(0), row);
+        SecondBest x = Made.seated(rowOf(0), row);
         CHECK.due("law()", Made.adopt(x, "30+a+2*b+5*r"), 1);
         for (int p = 0; p < 8; p++) {
             CHECK.due("lots(77, 50, " + p + ") of eight", x.lots(77, 50, p), won[p]);
@@ -350,7 +342,7 @@ public final class BoundsCupsTest {
 
     /** "CHAMPION (what 0), SECOND (1). BAD". */
     private static void championWhatIs0And1() {
-        SecondBest x = seated(Made.with(4), 0, 1, 2, 3);
+        SecondBest x = Made.seated(Made.with(4), 0, 1, 2, 3);
         CHECK.due("champion", x.champion(0), 3);
         CHECK.due("second", x.champion(1), 2);
         for (int what : new int[] {-1, 2, MIN, MAX}) {
@@ -378,7 +370,7 @@ public final class BoundsCupsTest {
 
     /** "who has more WORTH (alike: the lesser number)"; "(of like ones the least number)". */
     private static void championOfLikeWorths() {
-        SecondBest x = seated(Made.ofWorths(50, 50, 50, 50, 50, 50, 50, 50), 7, 6, 5, 4, 3, 2, 1, 0);
+        SecondBest x = Made.seated(Made.ofWorths(50, 50, 50, 50, 50, 50, 50, 50), 7, 6, 5, 4, 3, 2, 1, 0);
         CHECK.due("all alike", x.champion(0), 0);
         CHECK.due("1, 2 and 4 lost to 0", x.champion(1), 1);
         x.mend(7, 0, 51);
@@ -392,7 +384,7 @@ public final class BoundsCupsTest {
         x.mend(0, 0, 49);
         CHECK.due("0 and 4 one less", x.champion(0), 1);
         CHECK.due("0, 2 and 5 lost to 1", x.champion(1), 2);
-        SecondBest ends = seated(Made.ofWorths(0, 99, 0, 99), 0, 2, 1, 3);
+        SecondBest ends = Made.seated(Made.ofWorths(0, 99, 0, 99), 0, 2, 1, 3);
         CHECK.due("1 of 99 and 99", ends.champion(0), 1);
         CHECK.due("3 of 99", ends.champion(1), 3);
     }

@@ -13,14 +13,6 @@ public final class CupsTest {
         CHECK.end();
     }
 
-    private static SecondBest seated(SecondBest x, int... row) {
-        x.cup(-1);
-        for (int p : row) {
-            x.cup(p);
-        }
-        return x;
-    }
-
     private static void adopt(SecondBest x, String text) {
         CHECK.due("law of " + text, Made.adopt(x, text), 1);
     }
@@ -48,14 +40,14 @@ public final class CupsTest {
     }
 
     private static void likelyOfFour() {
-        SecondBest x = seated(Made.ofWorths(50, 50, 50, 50), 0, 1, 2, 3);
+        SecondBest x = Made.seated(Made.ofWorths(50, 50, 50, 50), 0, 1, 2, 3);
         for (int p = 0; p < 4; p++) {
             likely(x, p, 0, 1, 4);
             likely(x, p, 1, 1, 2);
             likely(x, p, 2, 1, 2);
         }
         // 0 beats 1 by 60, 2 beats 3 by 30; then 0 beats 2 by 80, 3 by 90, and so on.
-        SecondBest y = seated(Made.ofWorths(0, 0, 0, 0, 0), 0, 1, 2, 3);
+        SecondBest y = Made.seated(Made.ofWorths(0, 0, 0, 0, 0), 0, 1, 2, 3);
         adopt(y, "r=0&b=1?60;r=0?30;a=0?b*10+60;50");
         likely(y, 0, 1, 3, 5);
         likely(y, 0, 2, 2, 5);
@@ -70,12 +62,12 @@ public final class CupsTest {
         }
         y.cup(4);
         CHECK.due("a row of five", y.likely(0, 0, 0), Long.MIN_VALUE);
-        CHECK.due("a row of three", seated(y, 0, 1, 2).likely(0, 0, 0), Long.MIN_VALUE);
-        CHECK.due("a row of none", seated(y).likely(0, 0, 0), Long.MIN_VALUE);
+        CHECK.due("a row of three", Made.seated(y, 0, 1, 2).likely(0, 0, 0), Long.MIN_VALUE);
+        CHECK.due("a row of none", Made.seated(y).likely(0, 0, 0), Long.MIN_VALUE);
     }
 
     private static void likelyOfEight() {
-        SecondBest x = seated(Made.ofWorths(50, 50, 50, 50, 50, 50, 50, 50), 0, 1, 2, 3, 4, 5, 6, 7);
+        SecondBest x = Made.seated(Made.ofWorths(50, 50, 50, 50, 50, 50, 50, 50), 0, 1, 2, 3, 4, 5, 6, 7);
         for (int p = 0; p < 8; p++) {
             likely(x, p, 0, 1, 8);
             likely(x, p, 1, 1, 4);
@@ -94,7 +86,7 @@ public final class CupsTest {
     }
 
     private static void sureCups() {
-        SecondBest x = seated(Made.ofWorths(1, 2, 3, 4, 5, 6, 7, 8), 3, 0, 5, 2, 7, 1, 4, 6);
+        SecondBest x = Made.seated(Made.ofWorths(1, 2, 3, 4, 5, 6, 7, 8), 3, 0, 5, 2, 7, 1, 4, 6);
         adopt(x, "100");
         for (int p = 0; p < 8; p++) {
             likely(x, p, 0, p == 0 ? 1 : 0, 1);
@@ -110,7 +102,7 @@ public final class CupsTest {
     }
 
     private static void friends() {
-        SecondBest x = seated(Made.ofWorths(0, 0, 0, 0, 0), 0, 1, 2, 3);
+        SecondBest x = Made.seated(Made.ofWorths(0, 0, 0, 0, 0), 0, 1, 2, 3);
         CHECK.due("all alike: the first", x.friend(3), 0);
         // 0 beats 3 and 3 beats 1 and 2, who both beat 0: 0 is best off to meet 3 at last, and that can't be at first.
         adopt(x, "a=0?(b=3)*100;b=3?0;50");
@@ -118,30 +110,30 @@ public final class CupsTest {
         CHECK.due("3 loses to 0 alone, who is out by 1", x.friend(3), 0);
         CHECK.due("1 loses to 3 alone, who is out by 0", x.friend(1), 2);
         CHECK.due("2 likewise", x.friend(2), 2);
-        seated(x, 3, 0, 1, 2);
+        Made.seated(x, 3, 0, 1, 2);
         CHECK.due("3 with 0, or else", x.friend(3), 1);
         CHECK.due("1: 3 with 0 is the row's first with its second", x.friend(1), 0);
         // 0 is beaten by 1 alone, and 1 by 3 alone: of the pairings of 2 with 0, 1, 3 that of 3 with 1 is for 0.
-        seated(x, 2, 0, 1, 3);
+        Made.seated(x, 2, 0, 1, 3);
         adopt(x, "a=0?(b>1)*100;a=1?(b=2)*100;50");
         CHECK.due("2 with 0, 1 with 3", x.friend(0), 0);
-        seated(x, 2, 1, 0, 3);
+        Made.seated(x, 2, 1, 0, 3);
         CHECK.due("2 with 0 is the second way", x.friend(0), 1);
-        seated(x, 2, 1, 3, 0);
+        Made.seated(x, 2, 1, 3, 0);
         CHECK.due("2 with 0 is the third way", x.friend(0), 2);
-        seated(x, 2, 3, 1, 0);
+        Made.seated(x, 2, 3, 1, 0);
         CHECK.due("no such player", x.friend(5), -1);
         CHECK.due("not in the row", x.friend(4), -1);
         CHECK.due("friend(-1)", x.friend(-1), -1);
         x.cup(4);
         CHECK.due("a row of five", x.friend(0), -5);
-        seated(x, 0, 1, 2);
+        Made.seated(x, 0, 1, 2);
         CHECK.due("a row of three", x.friend(0), -5);
         CHECK.due("BAD stands ahead of STATE", x.friend(3), -1);
     }
 
     private static void lots() {
-        SecondBest x = seated(Made.ofWorths(50, 50, 50, 50, 50), 0, 1, 2, 3);
+        SecondBest x = Made.seated(Made.ofWorths(50, 50, 50, 50, 50), 0, 1, 2, 3);
         int z = 0;
         int[] drawn = new int[3];
         for (int i = 0; i < 3; i++) {
@@ -166,7 +158,7 @@ public final class CupsTest {
         CHECK.due("BAD stands ahead of STATE", x.lots(0, 51, 0), -1);
         // The lesser number is asked for, wherever it sits.
         adopt(x, "a=0?100;50");
-        CHECK.due("0 wins, wherever it sits", seated(x, 3, 1, 2, 0).lots(5, 50, 0), 50);
+        CHECK.due("0 wins, wherever it sits", Made.seated(x, 3, 1, 2, 0).lots(5, 50, 0), 50);
     }
 
     private static void champions() {
@@ -174,25 +166,25 @@ public final class CupsTest {
         CHECK.due("no row", x.champion(0), -5);
         CHECK.due("champion(2)", x.champion(2), -1);
         CHECK.due("champion(-1)", x.champion(-1), -1);
-        seated(x, 1, 3, 2, 4);
+        Made.seated(x, 1, 3, 2, 4);
         CHECK.due("champion", x.champion(0), 1);
         CHECK.due("second, who lost to the champion", x.champion(1), 2);
-        seated(x, 1, 7, 6, 5, 2, 3, 4, 0);
+        Made.seated(x, 1, 7, 6, 5, 2, 3, 4, 0);
         CHECK.due("champion of eight", x.champion(0), 1);
         CHECK.due("second of eight", x.champion(1), 2);
-        seated(x, 0, 7, 6, 5);
+        Made.seated(x, 0, 7, 6, 5);
         CHECK.due("champion", x.champion(0), 5);
         CHECK.due("second", x.champion(1), 6);
-        seated(x, 5, 4, 3, 1);
+        Made.seated(x, 5, 4, 3, 1);
         CHECK.due("champion", x.champion(0), 1);
         CHECK.due("of those beaten by the champion", x.champion(1), 3);
-        seated(x, 3, 4, 5, 1);
+        Made.seated(x, 3, 4, 5, 1);
         CHECK.due("the other half's best", x.champion(1), 3);
-        seated(x, 2, 3, 1, 0);
+        Made.seated(x, 2, 3, 1, 0);
         CHECK.due("2 and 0 lost to 1, not 3", x.champion(1), 2);
-        seated(x, 1, 0, 7, 6, 5);
+        Made.seated(x, 1, 0, 7, 6, 5);
         CHECK.due("a row of five", x.champion(0), -5);
-        SecondBest like = seated(Made.ofWorths(50, 50, 50, 50), 3, 2, 1, 0);
+        SecondBest like = Made.seated(Made.ofWorths(50, 50, 50, 50), 3, 2, 1, 0);
         CHECK.due("like worths: the least", like.champion(0), 0);
         CHECK.due("like worths: 1 and 2 lost to 0", like.champion(1), 1);
         like.mend(2, 0, 51);

@@ -20,6 +20,15 @@ final class Made {
         return x;
     }
 
+    /** Empties the cup's row and brings these players to it. */
+    static SecondBest seated(SecondBest x, int... row) {
+        x.cup(-1);
+        for (int p : row) {
+            x.cup(p);
+        }
+        return x;
+    }
+
     /** Brings a text to the tape and makes it the law: what law() answers. */
     static int adopt(SecondBest x, String text) {
         for (int i = 0; i < text.length(); i++) {
